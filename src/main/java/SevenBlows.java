@@ -590,20 +590,18 @@ public final class SevenBlows {
         }
 
         int worthOf(int set) {
-            int sum = 0;
-            for (int t = 0; t < tasks; t++) {
-                if (has(set, t)) {
-                    sum += worth[t];
-                }
-            }
-            return sum;
+            return together(worth, set);
         }
 
         int fameOf(int set) {
+            return together(fame, set);
+        }
+
+        private int together(int[] ofTasks, int set) {
             int sum = 0;
             for (int t = 0; t < tasks; t++) {
                 if (has(set, t)) {
-                    sum += fame[t];
+                    sum += ofTasks[t];
                 }
             }
             return sum;

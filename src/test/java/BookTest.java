@@ -9,6 +9,7 @@ public final class BookTest {
         seeds();
         images();
         imagesApart();
+        imageOfMany();
         c.end();
     }
 
@@ -81,7 +82,7 @@ public final class BookTest {
         x.belt(0, 44);
         x.belt(1, 55);
         x.inspect(1, 1);
-        x.attempt(1, 0, 0);
+        x.attempt(1, 0, 1);
         x.rumour(1);
         x.drift(9);
         x.seed(3);
@@ -121,5 +122,20 @@ public final class BookTest {
         c.due("image 0 anew", 3, x.fighter(0, 2));
         x.goBack(1);
         c.due("image 1 as it was", 1, x.fighter(0, 2));
+    }
+
+    private static void imageOfMany() {
+        SevenBlows x = c.land("p6;" + "f3 9 30;".repeat(5) + "t0 9 1 4;".repeat(6) + "r5 1 0;".repeat(4) + "e5 4 50;");
+        x.attempt(4, 5, 8);
+        String then = Checks.all(x);
+        x.keep(1);
+        for (int f = 0; f < 5; f++) {
+            x.read(5, f);
+            x.inspect(4, f);
+            x.attempt(f, 5, 7);
+            x.attempt(f, 4, 0);
+        }
+        x.goBack(1);
+        c.holds("all of many", then.equals(Checks.all(x)));
     }
 }

@@ -14,6 +14,7 @@ public final class DeedsTest {
         retired();
         drifts();
         driftsRefused();
+        fullLand();
         c.end();
     }
 
@@ -213,5 +214,25 @@ public final class DeedsTest {
         refused(x, before);
         c.due("one day", 1, x.drift(1));
         c.due("2 of 3", 3, x.drift(2));
+    }
+
+    /** As many of all as there can be. */
+    private static void fullLand() {
+        SevenBlows x = c.land("p6;" + "f0 9 30;".repeat(5) + "c0 1;c1 2;c2 3;c3 4;c4 5;" + "t5 9 1 4;".repeat(6) + "r5 1 0;".repeat(4) + "e5 4 50;");
+        c.due("rumour", 1, x.rumour(4));
+        c.due("heard", 50, x.thinks(4, 4));
+        c.due("attempt", 1, x.attempt(4, 5, 15));
+        for (int p = 0; p < 6; p++) {
+            c.due("fame at " + p, p < 4 ? 4 : 54, x.thinks(p, 4));
+            c.due("none of another at " + p, 0, x.thinks(p, 3));
+        }
+        c.due("read", 30, x.read(5, 3));
+        c.due("inspect", 9, x.inspect(5, 4));
+        c.due("belt", 30, x.belt(4, 5));
+        c.due("all", 4 * 4 + 54 + 9 + 30, x.told(7));
+        c.due("days", 99, x.drift(99));
+        x = c.land("p1;f0 9 30;");
+        c.due("one person, one fighter", 9, x.drift(9));
+        c.holds("he read or inspected", x.thinks(0, 0) == 9 || x.thinks(0, 0) == 30);
     }
 }

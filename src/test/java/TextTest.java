@@ -14,6 +14,9 @@ public final class TextTest {
         faultsOfTwo();
         faultChangesNothing();
         newLandStartsAnew();
+        threeLands();
+        oldLettersAreGone();
+        fullText();
         fullLand();
         c.end();
     }
@@ -208,6 +211,65 @@ public final class TextTest {
         c.due("image 0 is gone", Checks.NOT, x.goBack(0));
         c.due("image 1 is gone", Checks.NOT, x.goBack(1));
         c.due("the seed stays", 1234, x.seed(0));
+    }
+
+    /** What an earlier land told, or one with a fault, is in no later one. */
+    private static void threeLands() {
+        String full = "p6;" + "f1 2 3;".repeat(5) + TEN_CHATS + "t5 1 1 1;".repeat(6) + "r5 1 0;".repeat(4) + "e0 0 9;e5 1 9;e4 0 9;e5 4 9;";
+        SevenBlows x = c.land(full);
+        for (int i = 0; i < 3; i++) {
+            Checks.feed(x, full);
+            c.due("full again", 6, x.land());
+        }
+        Checks.feed(x, full + "p");
+        c.due("with a fault", -13, x.land());
+        Checks.feed(x, "p2;f0 5 0;c0 1;t0 1 1 1;e0 0 4;");
+        c.due("a small one", 2, x.land());
+        int[] due = {2, 1, 1, 1, 0, 0, 0, 4, 0};
+        for (int what = 0; what <= 8; what++) {
+            c.due("small told " + what, due[what], x.told(what));
+        }
+        c.due("its chats", 2, x.chats(0));
+        c.due("its tricks", 0, x.task(0, 4));
+        Checks.feed(x, "p6;f0 1 1;f0 1 1;c2 3;");
+        c.due("a third one", 6, x.land());
+        c.due("its thoughts", 0, x.told(7));
+        c.due("chats of 0", 0, x.chats(0));
+        c.due("chats of 2", 8, x.chats(2));
+    }
+
+    private static void oldLettersAreGone() {
+        SevenBlows x = c.land("p2;f0 12 34;");
+        Checks.feed(x, "p2");
+        c.due("no end of a clause", -11, x.land());
+        c.due("at the end", 2, x.fault());
+        Checks.feed(x, "p2;f0 1");
+        c.due("no more figures", -11, x.land());
+        c.due("at its end", 7, x.fault());
+        Checks.feed(x, "p2;f");
+        c.due("no numbers", -11, x.land());
+        c.due("behind f", 4, x.fault());
+        Checks.feed(x, "p2;");
+        c.due("short", 2, x.land());
+        c.due("nobody fights", 0, x.told(1));
+    }
+
+    private static void fullText() {
+        String blanks = " ".repeat(239);
+        String[] ends = {"p2;f0 12 34;", "p2;f0 12 345", "p2;f0 1 2345", "p2;f0 12 34 ", "p2;f0 1 2 ;f", "p2;f0 1 2; f"};
+        int[] due = {2, -12, -12, -11, -11, -11};
+        int[] places = {Checks.NONE, 247, 246, 250, 250, 250};
+        for (int i = 0; i < ends.length; i++) {
+            SevenBlows x = new SevenBlows();
+            Checks.feed(x, blanks.substring(1) + ends[i]);
+            c.due("letters", 250, x.told(5));
+            c.due("full text " + ends[i], due[i], x.land());
+            c.due("place in " + ends[i], places[i], x.fault());
+        }
+        SevenBlows x = c.land("p2;f0 12 34;" + blanks.substring(1));
+        c.due("full of blanks", 1, x.told(1));
+        Checks.feed(x, " ".repeat(250));
+        c.due("blanks alone", 0, x.land());
     }
 
     private static void fullLand() {

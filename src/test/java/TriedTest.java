@@ -129,6 +129,12 @@ public final class TriedTest {
         belts(c.land("p2;f2 99 0;f1 0 0;e0 1 60;e1 1 89;"), 1, new int[] {60, 0});
         belts(c.land("p1;f0 90 0;f0 0 50;e0 1 30;"), 2, new int[] {40, 0});
         belts(c.land("p6;f1 0 50;f1 0 7;"), 1, new int[] {0, 0});
+        belts(c.land("p1;f0 90 0;f1 0 0;e0 1 80;"), 1, new int[] {90, 0});
+        belts(c.land("p1;f0 99 0;f1 0 0;e0 1 90;"), 0, new int[] {0, 0});
+        belts(c.land("p2;f0 0 0;f1 0 0;e0 1 69;e1 1 69;"), 0, new int[] {0, 0});
+        belts(c.land("p2;f0 1 0;f1 0 0;e0 1 69;e1 1 69;"), 1, new int[] {70, 0});
+        belts(c.land("p3;f0 0 20;f1 0 0;e0 1 10;e1 1 60;e2 1 80;"), 0, new int[] {20, 0});
+        belts(c.land("p4;f0 44 95;f0 37 82;f0 74 83;e2 0 82;e3 2 40;"), 4, new int[] {0, 0, 90});
     }
 
     /** Two who outdo each other by tens, till it is too dear, and then fall back, never come to rest. */
@@ -185,6 +191,14 @@ public final class TriedTest {
         c.due("hire of -1", Checks.UNKNOWN, x.hire(-1, 0));
         c.due("hire what 2", Checks.OUTSIDE, x.hire(0, 2));
         c.due("hire what -1", Checks.OUTSIDE, x.hire(1, -1));
+        x = c.land("p2;f0 9 9;e1 0 1;");
+        c.due("for 1", 1, x.hire(0, 0));
+        c.due("for 0", 0, x.hire(0, 1));
+        x = c.land("p6;" + "f0 9 9;".repeat(5) + "e5 4 9;e4 4 8;e3 3 5;e4 2 7;e2 2 7;e3 1 6;");
+        c.due("the last is hired", 5, x.hire(4, 0));
+        c.due("by the last", 8, x.hire(4, 1));
+        c.due("like bids", 2, x.hire(2, 0));
+        c.due("of another", 7, x.hire(2, 1));
         x = c.land("p2;f0 1 1;f0 1 1;f0 1 1;e1 0 9;e0 1 8;e0 2 99;e1 2 98;");
         c.due("others bid 0", 1, x.hire(0, 0));
         c.due("pays 0", 0, x.hire(0, 1));
