@@ -224,14 +224,14 @@ public final class SevenBlows {
         if (!isFighter(f)) {
             return UNKNOWN;
         }
-        if (i < NONE || what < 0 || what > 1) {
+        if (what < 0 || what > 1) {
             return OUTSIDE;
         }
         planner.walk(realm, now, f);
         if (i == NONE) {
             return realm.worthOf(planner.passed);
         }
-        if (i >= planner.lengthOfPlan(realm)) {
+        if (i < 0 || i >= planner.lengthOfPlan(realm)) {
             return NONE;
         }
         return what == 0 ? planner.row[i] : planner.sets[i];
@@ -734,8 +734,8 @@ public final class SevenBlows {
             }
             numberPlace = place;
             int value = 0;
-            while (figureAhead()) {
-                if (place - numberPlace < 3) {
+            for (int i = 0; i < MOST_LETTERS && figureAhead(); i++) {
+                if (i < 3) {
                     value = value * 10 + letters[place] - '0';
                 }
                 place++;

@@ -503,7 +503,6 @@ final class Model {
     private int plan(int f, int i, int what) {
         fighterIs(f);
         within(what, 0, 1);
-        within(i, -1, Integer.MAX_VALUE);
         List<List<Integer>> all = new ArrayList<>();
         rows(w, f, new ArrayList<>(), all);
         List<Integer> best = all.get(0);
@@ -515,7 +514,7 @@ final class Model {
         if (i == NONE) {
             return worth(best);
         }
-        return i >= best.size() / 2 ? NONE : best.get(2 * i + what);
+        return i < 0 || i >= best.size() / 2 ? NONE : best.get(2 * i + what);
     }
 
     private int stops(int f) {

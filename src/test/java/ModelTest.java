@@ -67,7 +67,7 @@ public final class ModelTest {
             case "belt" -> ask("belt", small(), much(), 0);
             case "attempt" -> ask("attempt", small(), small(), tricks());
             case "drift" -> ask("drift", any(6) == 0 ? odd() : 1 + any(9), 0, 0);
-            case "plan" -> ask("plan", small(), any(8) - 1 - any(20) / 19, any(30) == 0 ? odd() : any(2));
+            case "plan" -> ask("plan", small(), any(20) == 0 ? odd() : any(8) - 1, any(30) == 0 ? odd() : any(2));
             case "write" -> ask("write", any(3) == 0 ? -1 : small(), 0, 0);
             case "tells" -> ask("tells", any(2) == 0 ? worn() : much(), much(), any(30) == 0 ? odd() : any(2));
             case "hides" -> ask("hides", any(11), any(104) - 1, 0);

@@ -31,6 +31,10 @@ public final class TriedTest {
         c.due("no more tasks of " + f, Checks.NONE, x.plan(f, tasks.length, 0));
         c.due("no more sets of " + f, Checks.NONE, x.plan(f, tasks.length, 1));
         c.due("nor far behind", Checks.NONE, x.plan(f, Integer.MAX_VALUE, 1));
+        for (int i : new int[] {-2, -3, Checks.UNKNOWN, Integer.MIN_VALUE}) {
+            c.due("no task " + i + " of " + f, Checks.NONE, x.plan(f, i, 0));
+            c.due("no set " + i + " of " + f, Checks.NONE, x.plan(f, i, 1));
+        }
         c.holds("a plan changes nothing", before.equals(Checks.all(x)));
     }
 
@@ -87,7 +91,8 @@ public final class TriedTest {
         c.due("plan what -1", Checks.OUTSIDE, x.plan(0, 0, -1));
         c.due("plan worth what 2", Checks.OUTSIDE, x.plan(0, Checks.NONE, 2));
         c.due("plan far what 2", Checks.OUTSIDE, x.plan(0, 100, 2));
-        c.due("plan i -2", Checks.OUTSIDE, x.plan(0, -2, 0));
+        c.due("plan i -2 what 2", Checks.OUTSIDE, x.plan(0, -2, 2));
+        c.due("plan i -2 of nobody", Checks.UNKNOWN, x.plan(4, -2, 0));
     }
 
     private static void stops() {
