@@ -6,6 +6,16 @@ final class Checks {
     static final int NOT = -1000000003;
     static final int FULL = -1000000004;
 
+    /** Calls that lead an object to where a test wants it. */
+    interface Way {
+        void lead(SevenBlows x);
+    }
+
+    /** One call, for its answer. */
+    interface Call {
+        int of(SevenBlows x);
+    }
+
     private int wrong;
     private int made;
 
@@ -14,6 +24,14 @@ final class Checks {
         if (want != got) {
             wrong++;
             System.out.println(call + " answered " + got + ", due is " + want);
+        }
+    }
+
+    void same(String what, String want, String got) {
+        made++;
+        if (!want.equals(got)) {
+            wrong++;
+            System.out.println(what + " is\n    " + got + ", due is\n    " + want);
         }
     }
 
@@ -43,24 +61,87 @@ final class Checks {
         return x;
     }
 
-    /** All that can be asked without a change, in one text: what is refused leaves it as it is. */
+    /** A text with '^' ahead of the letter that has the fault. */
+    void faulty(int number, String marked) {
+        int place = marked.indexOf('^');
+        String text = marked.substring(0, place) + marked.substring(place + 1);
+        SevenBlows x = new SevenBlows();
+        feed(x, text);
+        due("land of " + marked, -10 - number, x.land());
+        due("fault of " + marked, place, x.fault());
+        due("text after " + marked, 0, x.told(5));
+        due("people after " + marked, 0, x.told(0));
+    }
+
+    /** The call gets the refusal that is due, and the object stays as one that was led alike and not asked. */
+    void refused(String call, int refusal, Way way, Call asked) {
+        SevenBlows x = new SevenBlows();
+        SevenBlows like = new SevenBlows();
+        way.lead(x);
+        way.lead(like);
+        due(call, refusal, asked.of(x));
+        same("after the refused " + call + " all", whole(like), whole(x));
+    }
+
+    /** All that can be asked without a change, but for the land's own numbers, in one text. */
     static String all(SevenBlows x) {
+        return state(x) + "; fault " + x.fault();
+    }
+
+    /** All but the place of the fault. */
+    static String state(SevenBlows x) {
         StringBuilder s = new StringBuilder();
         for (int what = 0; what <= 8; what++) {
             s.append(x.told(what)).append(' ');
         }
-        s.append(x.fault()).append(' ').append(x.judge());
-        for (int f = 0; f < x.told(1); f++) {
+        s.append(x.judge());
+        int people = x.told(0);
+        int fighters = x.told(1);
+        for (int f = 0; f < fighters; f++) {
             s.append("; f");
             for (int what = 0; what <= 6; what++) {
                 s.append(' ').append(x.fighter(f, what));
             }
-            for (int p = 0; p < x.told(0); p++) {
+            for (int p = 0; p < people; p++) {
                 s.append(' ').append(x.thinks(p, f));
             }
         }
         int seed = x.seed(0);
         x.seed(seed);
         return s.append("; seed ").append(seed).toString();
+    }
+
+    /** The land's own numbers, which no deed changes. */
+    static String ground(SevenBlows x) {
+        StringBuilder s = new StringBuilder("chats");
+        int people = x.told(0);
+        int tasks = x.told(3);
+        int tricks = x.told(4);
+        for (int p = 0; p < people; p++) {
+            s.append(' ').append(x.chats(p));
+        }
+        for (int t = 0; t < tasks; t++) {
+            s.append("; t");
+            for (int what = 0; what <= 4; what++) {
+                s.append(' ').append(x.task(t, what));
+            }
+        }
+        for (int r = 0; r < tricks; r++) {
+            s.append("; r");
+            for (int what = 0; what <= 2; what++) {
+                s.append(' ').append(x.trick(r, what));
+            }
+        }
+        return s.toString();
+    }
+
+    /** All that an object holds, its images and its text too; it is of no more use behind that. */
+    private static String whole(SevenBlows x) {
+        StringBuilder s = new StringBuilder(all(x)).append(" | ").append(ground(x));
+        for (int i = 0; i < 2; i++) {
+            s.append(" | image ").append(x.goBack(i)).append(": ").append(all(x));
+        }
+        s.append(" | its text: ").append(x.land()).append(": ").append(all(x));
+        return s.append(", ").append(ground(x)).toString();
     }
 }

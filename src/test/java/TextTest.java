@@ -93,17 +93,6 @@ public final class TextTest {
         c.due("rested land", 0, x.told(5));
     }
 
-    /** The text with '^' ahead of the letter that has the fault. */
-    private static void faulty(int number, String marked) {
-        int place = marked.indexOf('^');
-        String text = marked.substring(0, place) + marked.substring(place + 1);
-        SevenBlows x = new SevenBlows();
-        Checks.feed(x, text);
-        c.due("land of " + marked, -10 - number, x.land());
-        c.due("fault of " + marked, place, x.fault());
-        c.due("text after " + marked, 0, x.told(5));
-    }
-
     private static void faultsOfPlace() {
         String[] marked = {
             "^x", "^;", "^5", "^1234", "  ^f0 0 0;", "^f0 0 0;p1;", "^P1;", "^\t", "p^", "p1^", "p1  ^",
@@ -114,7 +103,7 @@ public final class TextTest {
             "p1;f0 0 0;f0 0 0;f0 0 0;f0 0 0;f0 0 0^f0 0 0;", "p2;c0^c0;", "p^p9;", "p1;f0 0 0;e0 0 0^", "p1;^q"
         };
         for (int i = 0; i < marked.length; i++) {
-            faulty(1, marked[i]);
+            c.faulty(1, marked[i]);
         }
     }
 
@@ -128,34 +117,34 @@ public final class TextTest {
             "p2;f0 0 0;e0 0 0;e0 ^1 0;", "p6;c^6 0;"
         };
         for (int i = 0; i < marked.length; i++) {
-            faulty(2, marked[i]);
+            c.faulty(2, marked[i]);
         }
     }
 
     private static void faultsOfCount() {
-        faulty(3, "p1;^p1;");
-        faulty(3, "p1; ^p");
-        faulty(3, "p2;f0 0 0;^p9;");
-        faulty(3, "p1;" + "f0 0 0;".repeat(5) + "^f0 0 0;");
-        faulty(3, "p1;" + "f0 0 0;".repeat(5) + "^f9");
-        faulty(3, "p6;" + TEN_CHATS + "^c1 2;");
-        faulty(3, "p6;" + TEN_CHATS + "^c0 0;");
-        faulty(3, "p1;" + "t0 0 0 0;".repeat(6) + "^t0 0 0 0;");
-        faulty(3, "p1;t0 0 0 0;" + "r0 1 0;".repeat(4) + "^r0 1 0;");
+        c.faulty(3, "p1;^p1;");
+        c.faulty(3, "p1; ^p");
+        c.faulty(3, "p2;f0 0 0;^p9;");
+        c.faulty(3, "p1;" + "f0 0 0;".repeat(5) + "^f0 0 0;");
+        c.faulty(3, "p1;" + "f0 0 0;".repeat(5) + "^f9");
+        c.faulty(3, "p6;" + TEN_CHATS + "^c1 2;");
+        c.faulty(3, "p6;" + TEN_CHATS + "^c0 0;");
+        c.faulty(3, "p1;" + "t0 0 0 0;".repeat(6) + "^t0 0 0 0;");
+        c.faulty(3, "p1;t0 0 0 0;" + "r0 1 0;".repeat(4) + "^r0 1 0;");
     }
 
     private static final String TEN_CHATS = "c0 1;c0 2;c0 3;c0 4;c0 5;c1 2;c1 3;c1 4;c1 5;c2 3;";
 
     private static void faultsOfTwo() {
-        faulty(4, "p2;c0 ^0;");
-        faulty(4, "p2;c1 ^1;");
-        faulty(4, "p2;c0 1;c0 ^1;");
-        faulty(4, "p2;c0 1;c1 ^0;");
-        faulty(4, "p2;c0 1;c 1 ^000;");
-        faulty(4, "p3;c0 1;c1 2;c2 0;c2 ^1");
-        faulty(4, "p2;f0 0 0;e0 0 0;e0 ^0 5;");
-        faulty(4, "p2;f0 0 0;f0 0 0;e1 1 5;e1 0 5;e1 ^1 100;");
-        faulty(4, "p6;" + "f0 0 0;".repeat(5) + "e5 4 1;e4 4 1;e5 3 1;e5 ^4 1;");
+        c.faulty(4, "p2;c0 ^0;");
+        c.faulty(4, "p2;c1 ^1;");
+        c.faulty(4, "p2;c0 1;c0 ^1;");
+        c.faulty(4, "p2;c0 1;c1 ^0;");
+        c.faulty(4, "p2;c0 1;c 1 ^000;");
+        c.faulty(4, "p3;c0 1;c1 2;c2 0;c2 ^1");
+        c.faulty(4, "p2;f0 0 0;e0 0 0;e0 ^0 5;");
+        c.faulty(4, "p2;f0 0 0;f0 0 0;e1 1 5;e1 0 5;e1 ^1 100;");
+        c.faulty(4, "p6;" + "f0 0 0;".repeat(5) + "e5 4 1;e4 4 1;e5 3 1;e5 ^4 1;");
     }
 
     private static void faultChangesNothing() {
@@ -217,10 +206,6 @@ public final class TextTest {
     private static void threeLands() {
         String full = "p6;" + "f1 2 3;".repeat(5) + TEN_CHATS + "t5 1 1 1;".repeat(6) + "r5 1 0;".repeat(4) + "e0 0 9;e5 1 9;e4 0 9;e5 4 9;";
         SevenBlows x = c.land(full);
-        for (int i = 0; i < 3; i++) {
-            Checks.feed(x, full);
-            c.due("full again", 6, x.land());
-        }
         Checks.feed(x, full + "p");
         c.due("with a fault", -13, x.land());
         Checks.feed(x, "p2;f0 5 0;c0 1;t0 1 1 1;e0 0 4;");

@@ -42,10 +42,13 @@ public final class TriedTest {
         SevenBlows x = c.land(TEXT);
         row(x, 0, 25, new int[] {0, 3}, new int[] {0, 8});
         row(x, 1, 65, new int[] {0, 1, 3}, new int[] {0, 0, 0});
+        x = c.land(TEXT);
         x.attempt(0, 3, 8);
         x.attempt(1, 1, 0);
         row(x, 0, 5, new int[] {0}, new int[] {0});
         row(x, 1, 25, new int[] {0, 3}, new int[] {0, 0});
+        x = c.land(TEXT);
+        x.attempt(0, 3, 8);
         x.attempt(0, 0, 0);
         row(x, 0, 0, new int[] {}, new int[] {});
         x = c.land("p1;f0 5 0;t0 40 1 20;t0 25 2 20;t0 6 3 20;t0 5 4 20;t0 60 9 0;r2 1 20;r4 1 0;");
