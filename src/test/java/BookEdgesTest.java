@@ -19,6 +19,7 @@ public final class BookEdgesTest {
         imageOfNothing();
         goBackNeedsKeep();
         goBackToEachThing();
+        goBackOfAll();
         goBackLeavesTheRest();
         goBackAgain();
         keepOver();
@@ -224,6 +225,25 @@ public final class BookEdgesTest {
         backFrom("days", x -> x.drift(1));
         backFrom("many days", x -> x.drift(99));
         backFrom("THE SEED", x -> x.seed(2147483647));
+    }
+
+    /** As many PEOPLE, FIGHTERS, TASKS and TRICKS as there can be. */
+    private static void goBackOfAll() {
+        SevenBlows x = c.land("p6;" + "f0 9 30;".repeat(5) + "t5 9 1 4;".repeat(6) + "r0 1 0;r1 1 0;r2 1 0;r5 1 0;");
+        for (int f = 0; f < 5; f++) {
+            x.attempt(f, f + 1, f == 4 ? 8 : 0);
+        }
+        String then = Checks.all(x);
+        x.keep(1);
+        for (int f = 0; f < 5; f++) {
+            x.belt(f, 40 + f);
+            x.attempt(f, f, f < 3 ? 1 << f : 0);
+            x.read(5 - f, f);
+        }
+        x.drift(50);
+        c.holds("P30: all is otherwise", !then.equals(Checks.all(x)));
+        x.goBack(1);
+        c.same("P30: all is as it was", then, Checks.all(x));
     }
 
     private static void goBackLeavesTheRest() {

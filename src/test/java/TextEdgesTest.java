@@ -28,12 +28,15 @@ public final class TextEdgesTest {
         thirtyThoughts();
         toldAheadOnly();
         endOfTheText();
+        endOfAFullText();
+        endAheadOfOlderLetters();
         firstFaultOfTwo();
         leastFaultOfALetter();
         twiceEitherWay();
         faultIsOfTheLatest();
         faultLeavesAll();
         landMakesAllNew();
+        nothingOfEarlierLands();
         seedStays();
         toldBounds();
         c.end();
@@ -285,6 +288,8 @@ public final class TextEdgesTest {
 
     private static void oneClauseTooMany() {
         c.faulty(3, "p6;^p6;");
+        c.faulty(3, "p6;f0 1 2;^p6;");
+        c.faulty(3, "p6;  ^p");
         c.faulty(3, "p6;" + FIVE_FIGHTERS + "^f0 1 2;");
         c.faulty(3, "p6;" + TEN_CHATS + "^c2 4;");
         c.faulty(3, "p6;" + SIX_TASKS + "^t0 1 2 3;");
@@ -344,6 +349,31 @@ public final class TextEdgesTest {
         }
         c.faulty(2, "p1;f^9");
         c.faulty(2, "p1;f0 1 ^2345");
+    }
+
+    private static void endOfAFullText() {
+        c.faulty(1, " ".repeat(249) + "p^");
+        c.faulty(1, " ".repeat(248) + "p6^");
+        c.faulty(2, " ".repeat(248) + "p^7");
+        c.faulty(1, "p1;" + " ".repeat(240) + "f0 1 99^");
+        c.faulty(1, "p1;" + " ".repeat(246) + "f^");
+        c.faulty(2, "p1;" + " ".repeat(241) + "f0 ^1000");
+        c.due("the last of 250 ends it", 99, c.land("p1;" + " ".repeat(239) + "f0 1 99;").fighter(0, 2));
+    }
+
+    /** What was told in an earlier text does not go on behind the end of a later one. */
+    private static void endAheadOfOlderLetters() {
+        String[] marked = {"p1^", "p1;f^", "p1;f0 2^", "p1;f0 23 4^", "p1;f0 23 45^", "^x"};
+        for (String text : marked) {
+            SevenBlows x = c.land("p1;f0 23 45;f0 67 89;");
+            Checks.feed(x, text.replace("^", ""));
+            c.due("P3: behind an older text " + text, -11, x.land());
+            c.due("P4: behind an older text " + text, text.indexOf('^'), x.fault());
+        }
+        SevenBlows x = c.land("p1;f0 23 45;f0 67 89;");
+        Checks.feed(x, "p1;");
+        c.due("P3: a shorter one", 1, x.land());
+        c.due("P5: nobody of the older one", 0, x.told(1));
     }
 
     private static void firstFaultOfTwo() {
@@ -448,6 +478,30 @@ public final class TextEdgesTest {
         c.due("P3: IMAGE 0 is gone", Checks.NOT, x.goBack(0));
         c.due("P3: IMAGE 1 is gone", Checks.NOT, x.goBack(1));
         c.due("P3: the TRICK may be used", 1, x.attempt(0, 0, 1));
+    }
+
+    /** Neither of the land before, nor of a text with a FAULT, nor of the land before that. */
+    private static void nothingOfEarlierLands() {
+        String full = "p6;" + FIVE_FIGHTERS + TEN_CHATS + SIX_TASKS + FOUR_TRICKS + "e0 0 9;e5 4 8;";
+        String small = "p6;" + "f0 5 0;".repeat(5) + "c2 3;e1 1 4;e0 0 3;";
+        SevenBlows like = c.land(small);
+        String due = Checks.all(like) + Checks.ground(like);
+        SevenBlows x = c.land(full);
+        Checks.feed(x, small);
+        c.due("P3: a small one behind a full one", 6, x.land());
+        c.same("P3: just the small one", due, Checks.all(x) + Checks.ground(x));
+        Checks.feed(x, small);
+        c.due("P3: and once more", 6, x.land());
+        c.same("P3: once more just the small one", due, Checks.all(x) + Checks.ground(x));
+        Checks.feed(x, "p1;f0 1 1;");
+        c.due("P3: a least one", 1, x.land());
+        c.due("P7: untold there", 0, x.thinks(0, 0));
+        x = new SevenBlows();
+        Checks.feed(x, full + "x");
+        c.due("P3: a FAULT at the end of a full one", -11, x.land());
+        Checks.feed(x, small);
+        c.due("P3: a small one behind it", 6, x.land());
+        c.same("P3: just that", due, Checks.all(x) + Checks.ground(x));
     }
 
     private static void seedStays() {

@@ -32,6 +32,7 @@ public final class TriedEdgesTest {
         wordsNone();
         wordsJustSo();
         wordsTo0AtLeast();
+        wordsOfTheOtherOnesBelt();
         hireByNobody();
         hireLikeBids();
         hireSecondBid();
@@ -40,6 +41,7 @@ public final class TriedEdgesTest {
         saw99AtMost();
         sawBeltOrNot();
         sawSure();
+        sawByTheLast();
         hidesAtTheEnds();
         hidesCuts();
         c.end();
@@ -398,6 +400,14 @@ public final class TriedEdgesTest {
         words("p1;f0 1 99;f0 1 99;", 20);
     }
 
+    private static void wordsOfTheOtherOnesBelt() {
+        words("p1;f0 20 70;f0 80 30;", 2);
+        words("p1;f0 20 30;f0 80 20;", 1);
+        words("p1;f0 20 30;f0 80 19;", 0);
+        words("p1;f0 20 89;f0 80 99;", 8 + 1);
+        words("p1;f0 20 90;f0 80 99;", 8 + 2);
+    }
+
     // ---- promise 22
 
     private static void hires(SevenBlows x, int f, int who, int pays) {
@@ -518,6 +528,19 @@ public final class TriedEdgesTest {
         x.attempt(1, 0, 0);
         x.attempt(0, 1, 0);
         saw("of his own TASKS alone", x, 1, 2);
+    }
+
+    private static void sawByTheLast() {
+        SevenBlows x = c.land("p6;f0 9 50;f0 9 40;f0 9 30;f0 9 20;f0 9 60;" + "t0 1 1 0;".repeat(5) + "t0 1 1 7;e5 4 60;e4 4 1;");
+        x.attempt(4, 5, 0);
+        int[] ways = {1, 1, 1, 1, 0, 1};
+        int[] sure = {32, 32, 32, 32, 0, 32};
+        for (int p = 0; p < 6; p++) {
+            c.due("P23: ways, PERSON " + p + " of the last", ways[p], x.saw(p, 4, 0));
+            c.due("P23: SURE, PERSON " + p + " of the last", sure[p], x.saw(p, 4, 1));
+            c.due("P23: ways, PERSON " + p + " of one who did nothing", 1, x.saw(p, 3, 0));
+            c.due("P23: SURE, PERSON " + p + " of one who did nothing", 0, x.saw(p, 3, 1));
+        }
     }
 
     // ---- promise 24
