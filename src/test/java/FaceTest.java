@@ -31,6 +31,7 @@ public final class FaceTest {
         List<String> found = new ArrayList<>();
         for (Method m : SevenBlows.class.getDeclaredMethods()) {
             if (Modifier.isPrivate(m.getModifiers())) {
+                nameOfItsOwn(m);
                 continue;
             }
             found.add(m.getName() + " " + m.getParameterCount());
@@ -51,11 +52,14 @@ public final class FaceTest {
         c.due("constructors", 1, made.length);
         c.holds("public constructor without parameters", made[0].getModifiers() == Modifier.PUBLIC && made[0].getParameterCount() == 0);
         int shown = 0;
+        int held = 0;
         for (Field f : face.getDeclaredFields()) {
             shown += Modifier.isPrivate(f.getModifiers()) ? 0 : 1;
+            held += Modifier.isStatic(f.getModifiers()) ? 0 : 1;
             c.holds(f + " is final, if static", !Modifier.isStatic(f.getModifiers()) || Modifier.isFinal(f.getModifiers()));
         }
         c.due("fields that are not private", 5, shown);
+        c.holds("twenty fields at most", held <= 20);
         Class<?>[] inside = face.getDeclaredClasses();
         c.holds("twelve classes at most", inside.length <= 11);
         for (Class<?> k : inside) {
@@ -68,10 +72,14 @@ public final class FaceTest {
         c.holds(k + " is not public", !Modifier.isPublic(k.getModifiers()) && !Modifier.isProtected(k.getModifiers()));
         c.holds(k + " has twenty fields at most", k.getDeclaredFields().length <= 20);
         for (Method m : k.getDeclaredMethods()) {
-            for (String named : METHODS) {
-                c.holds(m + " has a name of its own", !named.substring(0, named.indexOf(' ')).equals(m.getName()));
-            }
-            c.holds(m + " takes seven at most", m.getParameterCount() <= 7);
+            nameOfItsOwn(m);
         }
+    }
+
+    private static void nameOfItsOwn(Method m) {
+        for (String named : METHODS) {
+            c.holds(m + " has a name of its own", !named.substring(0, named.indexOf(' ')).equals(m.getName()));
+        }
+        c.holds(m + " takes seven at most", m.getParameterCount() <= 7);
     }
 }

@@ -22,7 +22,23 @@ public final class LanguageTest {
         }
         c.holds("signs 1 to 127", source.chars().allMatch(sign -> sign > 0 && sign < 128));
         methodsAreShort(List.of(source.split("\n")));
+        onlyConstructorsMake(List.of(bare.split("\n")));
         c.end();
+    }
+
+    /** All calls of a run live in one room: rows are made with the object, as fields or by its constructor, and by no call. */
+    private static void onlyConstructorsMake(List<String> lines) {
+        int inConstructor = 0;
+        boolean constructor = false;
+        for (String line : lines) {
+            constructor |= line.equals("    public SevenBlows() {");
+            if (line.contains("new ")) {
+                inConstructor += constructor ? 1 : 0;
+                c.holds(line.trim() + " makes no more than the object's own", constructor || line.matches(" {8}final int\\[\\] .* = new .*"));
+            }
+            constructor &= !line.equals("    }");
+        }
+        c.holds("the constructor makes something", inConstructor > 5);
     }
 
     /** A method stands from the line that opens it to the line of the same depth that closes it. */
