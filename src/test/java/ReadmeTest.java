@@ -117,6 +117,6 @@ public final class ReadmeTest {
         c.holds(".ci/run can be called", Files.isExecutable(command));
         String script = Files.readString(command);
         c.holds(".ci/run goes over the project's tests", script.contains("for test in src/test/java/*Test.java"));
-        c.holds(".ci/run goes over the shared tests", script.contains("find ../shared/tests -name '*.java'"));
+        c.holds(".ci/run goes over the shared tests", script.contains("find -L ../shared/tests -name '*.java'"));
     }
 }
